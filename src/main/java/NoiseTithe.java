@@ -524,6 +524,7 @@ public final class NoiseTithe {
     }
 
     public int payments() {
+        sets.lookAt(street);
         return sets.fewestPayments(street);
     }
 
@@ -1187,9 +1188,10 @@ public final class NoiseTithe {
         }
     }
 
-    /** All sets of a STREET's HOUSES, each by its bits, with what their RIPPLES come to. */
+    /** All sets of a STREET's HOUSES, each by its bits: what they come to together; 0 of none. */
     private static final class Sets {
         private final int[] ripples = new int[1 << MOST_HOUSES];
+        private final int[] sums = new int[1 << MOST_HOUSES];
         private final int[] table = new int[1 << MOST_HOUSES];
         private int setCount = 1;
         private int houseCount = 0;
@@ -1199,7 +1201,6 @@ public final class NoiseTithe {
             houseCount = street.houseCount;
             setCount = 1 << houseCount;
             mutes = 0;
-            ripples[0] = 0;
             for (int i = 0; i < houseCount; i++) {
                 addHouse(ripples, i, street.ripple(i));
                 mutes |= street.houses[i].isMute() ? 1 << i : 0;
@@ -1207,10 +1208,10 @@ public final class NoiseTithe {
         }
 
         /** Sums of sets with HOUSE i come from those of the sets of HOUSES ahead of it. */
-        private static void addHouse(int[] sums, int i, int value) {
+        private static void addHouse(int[] sumOf, int i, int value) {
             int bit = 1 << i;
-            for (int set = 0; set < bit && bit + set < sums.length; set++) {
-                sums[bit + set] = sums[set] + value;
+            for (int set = 0; set < bit && bit + set < sumOf.length; set++) {
+                sumOf[bit + set] = sumOf[set] + value;
             }
         }
 
@@ -1320,13 +1321,12 @@ public final class NoiseTithe {
 
         /** The set of the least RIPPLES with a SOUND of v or more, or -1. */
         int cheapestSounding(Street street, int v) {
-            table[0] = 0;
             for (int i = 0; i < houseCount; i++) {
-                addHouse(table, i, street.houses[i].sound());
+                addHouse(sums, i, street.houses[i].sound());
             }
             int cheapest = -1;
             for (int set = 0; set < setCount; set++) {
-                if (table[set] >= v && (cheapest < 0 || ripples[set] < ripples[cheapest])) {
+                if (sums[set] >= v && (cheapest < 0 || ripples[set] < ripples[cheapest])) {
                     cheapest = set;
                 }
             }
@@ -1377,12 +1377,8 @@ public final class NoiseTithe {
          * the more such groups, the fewer payments.
          */
         int fewestPayments(Street street) {
-            lookAt(street);
-            int[] balances = ripples;
-            int owing = 0;
             for (int i = 0; i < houseCount; i++) {
-                addHouse(balances, i, street.balanceOf(i));
-                owing |= street.balanceOf(i) != 0 ? 1 << i : 0;
+                addHouse(sums, i, street.balanceOf(i));
             }
             table[0] = 0;
             for (int set = 1; set < setCount; set++) {
@@ -1392,9 +1388,9 @@ public final class NoiseTithe {
                         groups = Math.max(groups, table[set - (1 << i)]);
                     }
                 }
-                table[set] = groups + (balances[set] == 0 ? 1 : 0);
+                table[set] = groups + (sums[set] == 0 ? 1 : 0);
             }
-            return Integer.bitCount(owing) - table[owing];
+            return houseCount - table[setCount - 1];
         }
     }
 

@@ -64,6 +64,8 @@ public final class DebtsTest {
         CHECK.due("payments() without DEBTS", balances().payments(), 0);
         CHECK.due("payments() of -5 0 0 0 0 0 0 5", balances(-5).payments(), 1);
         CHECK.due("payments() of -5 5", balances(-5, 5).payments(), 1);
+        CHECK.due("payments() of 1 1 -2", balances(1, 1, -2).payments(), 2);
+        CHECK.due("payments() of 0 1 -1 1 -1", balances(0, 1, -1, 1, -1).payments(), 2);
         CHECK.due("payments() of -5 -5 10", balances(-5, -5, 10).payments(), 2);
         CHECK.due("payments() of -1 -2 3 -4 4", balances(-1, -2, 3, -4, 4).payments(), 3);
         CHECK.due("payments() of 3 3 -2 -2 -2", balances(3, 3, -2, -2, -2).payments(), 4);

@@ -72,6 +72,10 @@ public final class HoursTest {
         x.hour(255);
         x.hour(2);
         CHECK.told("jar() of three HOURS", x, x.jar(), 58, 26);
+        x.hour(255);
+        CHECK.told("jar() of four HOURS", x, x.jar(), 58, 26 + 36);
+        CHECK.due("undo(3): the last one", x.undo(3), 1);
+        CHECK.told("jar() behind undo(3)", x, x.jar(), 58, 26);
         CHECK.due("undo(3): none", x.undo(3), 0);
         CHECK.told("jar() behind none undone", x, x.jar(), 58, 26);
         CHECK.due("made(1) behind none undone", x.made(1), 42);
@@ -234,7 +238,9 @@ public final class HoursTest {
         x.pay(0, 4);
         x.pay(3, 6);
         CHECK.told("due(): 0 -4 - 0 2", x, x.due(), 2, 4);
-        x.pay(4, 2);
+        x.pay(4, 1);
+        CHECK.told("due(): 0 -4 - 0 1", x, x.due(), 1, 4);
+        x.pay(4, 1);
         CHECK.told("due(): none above 0", x, x.due(), 0, NoiseTithe.NONE);
     }
 
@@ -273,6 +279,8 @@ public final class HoursTest {
         long kept = x.digest();
         x.undo(0);
         x.hour(1);
+        x.hour(2);
+        x.hour(4);
         x.wall(2, 77);
         x.altar(0);
         x.pay(1, 5);
@@ -287,6 +295,7 @@ public final class HoursTest {
         CHECK.due("undo(1) behind on(1)", x.undo(1), 1);
         CHECK.told("jar() behind undo(1)", x, x.jar(), 36, 0);
         CHECK.due("made(2) behind undo(1)", x.made(2), 1);
+        CHECK.due("made(1) behind undo(1)", x.made(1), 14);
         x.hour(4);
         x.lay(3, 0, 50);
         CHECK.due("on(1) once more", x.on(1), 2);

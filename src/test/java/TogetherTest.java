@@ -130,6 +130,12 @@ public final class TogetherTest {
         CHECK.told("hours(31, 10): two each", equal, equal.hours(31, 10), 3, 1);
         CHECK.told("hours(15, 10): two each", equal, equal.hours(15, 10), 2, 3);
         CHECK.due("water behind hours", equal.jar(), 0);
+        NoiseTithe pairs = Check.street("a00 h60 h70 h60 h70");
+        CHECK.told("hours(15, 10): 6 4, 6 4, not 6 6", pairs, pairs.hours(15, 10), 2, 5);
+        NoiseTithe eight = Check.street("a00 f90 f90 f90 f90 f90 f90 f90 f90");
+        CHECK.told("hours(255, 18): 18 17 .. 11, one each", eight, eight.hours(255, 18), 8, 1);
+        CHECK.refused("hours(240, 13): the first of it is too much", eight, () -> eight.hours(240, 13), NoiseTithe.NONE);
+        CHECK.refused("hours(3, 17): the first one is too much", eight, () -> eight.hours(3, 17), NoiseTithe.NONE);
     }
 
     private static void hoursRefused() {

@@ -91,6 +91,8 @@ public final class ToldTest {
         x.hour(9);
         x.debt(3, 0, 1);
         countIs(x, "BELLS in debt", 8, 3, 2, 2, 2, 1, 3, 1);
+        NoiseTithe first = Check.street("a00 b10 u10 f10");
+        countIs(first, "BELLS at the first place", 3, 0, 1, 1, 1, 0, 0, 1);
         x.debt(5, 0, 1);
         x.text(3, 0);
         countIs(x, "a CHOIR in debt", 8, 3, 2, 2, 1, 1, 3, 2);

@@ -186,6 +186,11 @@ public final class WhoWasLoudTest {
         CHECK.told("rises(): 0 2 3 4 5 7 8 9 10 12", x, x.rises(), 10, 12);
         NoiseTithe all = Check.street(Check.ALL_KINDS);
         CHECK.told("rises(): 0 to 38 without 3, 35", all, all.rises(), 37, 38);
+        CHECK.told("rises() again", all, all.rises(), 37, 38);
+        CHECK.told("hours(68, 1) behind rises()", all, all.hours(68, 1), 2, 4);
+        all.rises();
+        CHECK.due("payments() behind rises()", all.payments(), 0);
+        CHECK.told("wedding(59) behind rises()", all, all.wedding(59), 38, 239);
         NoiseTithe mute = Check.street("a00 u50");
         CHECK.told("rises() of a MUTE", mute, mute.rises(), 1, 0);
         NoiseTithe none = new NoiseTithe();
