@@ -15,6 +15,7 @@ public final class HoursTest {
         due();
         keep();
         on();
+        onThenUndo();
         CHECK.end();
     }
 
@@ -303,5 +304,28 @@ public final class HoursTest {
         CHECK.due("digest() behind on(1) once more", x.digest(), kept);
         CHECK.due("findings(1)", x.findings(Check.NOTHING), 1);
         CHECK.found("on(0): another place", x, () -> x.on(0), Check.NOTHING);
+    }
+
+    private static void onThenUndo() {
+        NoiseTithe x = Check.street("a00 f90 f90 f90 f90");
+        x.hour(15);
+        x.hour(3);
+        x.hour(8);
+        x.keep(0);
+        x.undo(0);
+        x.hour(0);
+        x.hour(1);
+        x.hour(2);
+        x.on(0);
+        CHECK.told("jar() behind on(0)", x, x.jar(), 60, 6 + 35 + 15);
+        CHECK.told("loud(0) behind on(0)", x, x.loud(0), 15, 60);
+        CHECK.told("loud(1) behind on(0)", x, x.loud(1), 3, 0);
+        CHECK.due("undo(2) behind on(0)", x.undo(2), 1);
+        CHECK.told("jar() behind undo(2)", x, x.jar(), 60, 6 + 35);
+        CHECK.due("made(0) behind undo(2)", x.made(0), 36);
+        CHECK.due("undo(1) behind undo(2)", x.undo(1), 1);
+        CHECK.told("jar() behind undo(1)", x, x.jar(), 60, 6);
+        CHECK.due("undo(0) behind undo(1)", x.undo(0), 1);
+        CHECK.told("jar() behind undo(0)", x, x.jar(), 0, 0);
     }
 }
