@@ -55,15 +55,12 @@ public final class NoiseTithe {
         if (!isRow(r)) {
             return BAD;
         }
-        Cells row = rows[r];
-        if (row.isMissing()) {
-            return found(NOTHING);
+        int refusal = refusalOfPlace(rows[r], i);
+        if (refusal != 0) {
+            return refusal;
         }
-        if (!row.has(i)) {
-            return found(BEYOND);
-        }
-        int was = row.get(i);
-        row.set(i, v);
+        int was = rows[r].get(i);
+        rows[r].set(i, v);
         return tell(was, 1);
     }
 
@@ -71,13 +68,8 @@ public final class NoiseTithe {
         if (!isRow(r)) {
             return BAD;
         }
-        if (rows[r].isMissing()) {
-            return found(NOTHING);
-        }
-        if (!rows[r].has(i)) {
-            return found(BEYOND);
-        }
-        return tell(rows[r].get(i), 1);
+        int refusal = refusalOfPlace(rows[r], i);
+        return refusal != 0 ? refusal : tell(rows[r].get(i), 1);
     }
 
     public int tear(int r) {
@@ -137,15 +129,12 @@ public final class NoiseTithe {
         if (!isText(t)) {
             return BAD;
         }
-        Cells text = texts[t];
-        if (text.isMissing()) {
-            return found(NOTHING);
+        int refusal = refusalOfPlace(texts[t], i);
+        if (refusal != 0) {
+            return refusal;
         }
-        if (!text.has(i)) {
-            return found(BEYOND);
-        }
-        int was = text.get(i);
-        text.set(i, (byte) v);
+        int was = texts[t].get(i);
+        texts[t].set(i, (byte) v);
         return was + 1000;
     }
 
@@ -657,6 +646,14 @@ public final class NoiseTithe {
             findingCounts[f]++;
         }
         return FINDING;
+    }
+
+    /** 0: none. */
+    private int refusalOfPlace(Cells cells, int i) {
+        if (cells.isMissing()) {
+            return found(NOTHING);
+        }
+        return cells.has(i) ? 0 : found(BEYOND);
     }
 
     private boolean isRow(int r) {
@@ -1345,7 +1342,7 @@ public final class NoiseTithe {
             return best;
         }
 
-        /** The fewest HOURS for a set of which no HOUSE alone is too much; the table has them for its parts. */
+        /** The fewest HOURS for a set (no HOUSE of it alone is too much); the table has its parts'. */
         int fewestHours(int whole, int holds) {
             table[0] = 0;
             for (int set = 1; set < setCount; set++) {
