@@ -8,6 +8,12 @@ final class Check {
     static final String ALL_KINDS = "a32 h91 f80 m92 b70 u50 c91 h62 f40";
 
     private int wrong = 0;
+    private String about = "";
+
+    /** What the answers from here on are about: it is printed ahead of each wrong one. */
+    void about(String what) {
+        about = what + ": ";
+    }
 
     /** An object whose STREET is as a text says. */
     static NoiseTithe street(String text) {
@@ -34,7 +40,7 @@ final class Check {
     void due(String call, long got, long want) {
         if (got != want) {
             wrong++;
-            System.out.println(call + " answered " + got + ", due is " + want);
+            System.out.println(about + call + " answered " + got + ", due is " + want);
         }
     }
 

@@ -19,6 +19,7 @@ public final class FaceTest {
     public static void main(String[] args) {
         constants();
         members();
+        classesInside();
         newObject();
         CHECK.end();
     }
@@ -59,6 +60,23 @@ public final class FaceTest {
         CHECK.due("constructors", constructors.length, 1);
         CHECK.due("public constructor", Modifier.isPublic(constructors[0].getModifiers()) ? 1 : 0, 1);
         CHECK.due("final", Modifier.isFinal(NoiseTithe.class.getModifiers()) ? 1 : 0, 1);
+    }
+
+    /** Private and static, with no private method of a public one's name, of few fields and parameters. */
+    private static void classesInside() {
+        for (Class<?> inside : NoiseTithe.class.getDeclaredClasses()) {
+            String name = inside.getSimpleName();
+            CHECK.due(name + " is private", Modifier.isPrivate(inside.getModifiers()) ? 1 : 0, 1);
+            CHECK.due(name + " is static", Modifier.isStatic(inside.getModifiers()) ? 1 : 0, 1);
+            CHECK.due(name + ": twenty fields at most", inside.getDeclaredFields().length <= 20 ? 1 : 0, 1);
+            for (Method method : inside.getDeclaredMethods()) {
+                String call = name + "." + method.getName();
+                boolean isHidden = Modifier.isPrivate(method.getModifiers()) && !method.isSynthetic();
+                boolean isPublicOne = (" " + FACE).contains(" " + method.getName() + "/");
+                CHECK.due("private, with a public name: " + call, isHidden && isPublicOne ? 1 : 0, 0);
+                CHECK.due(call + ": seven parameters at most", method.getParameterCount() <= 7 ? 1 : 0, 1);
+            }
+        }
     }
 
     private static void newObject() {

@@ -2,9 +2,12 @@ import java.lang.reflect.Method;
 import java.util.Arrays;
 import java.util.Random;
 
-/** Runs of 512 calls, by fixed seeds, on the program and on the Model: both answer alike. */
+/**
+ * Runs by fixed seeds on the program and on the Model: both answer alike. A run ends ahead of the
+ * 513th call, and those that only look at what is told count, too: so not all is looked at each time.
+ */
 public final class RandomRunsTest {
-    private static final int RUNS = 150, CALLS = 512;
+    private static final int RUNS = 600, CALLS = 512, CALLS_OF_A_LOOK = 9, BETWEEN_LOOKS = 8;
 
     /** Each call with the sorts of its arguments. */
     private static final String[] CALL_SORTS = {
@@ -36,7 +39,7 @@ public final class RandomRunsTest {
     }
 
     private void run(int seed) throws ReflectiveOperationException {
-        while (calls < CALLS) {
+        while (hasRoom()) {
             int what = random.nextInt(60);
             if (calls < 3 || what == 0) {
                 buildStreet(seed);
@@ -51,6 +54,12 @@ public final class RandomRunsTest {
                 call(seed, sorts[0], args);
             }
         }
+        look("at the end of run " + seed);
+    }
+
+    /** For one more call, what it tells by asked(), and a last look. */
+    private boolean hasRoom() {
+        return calls + 2 + 2 * CALLS_OF_A_LOOK <= CALLS;
     }
 
     private void buildStreet(int seed) throws ReflectiveOperationException {
@@ -108,7 +117,7 @@ public final class RandomRunsTest {
     }
 
     private void call(int seed, String name, int... values) throws ReflectiveOperationException {
-        if (calls++ >= CALLS) {
+        if (!hasRoom()) {
             return;
         }
         Class<?>[] types = new Class<?>[values.length];
@@ -119,13 +128,21 @@ public final class RandomRunsTest {
         String call = "run " + seed + ", call " + calls + ", " + name + Arrays.toString(values);
         CHECK.due(call, number(ofProgram.invoke(program, args)), number(ofModel.invoke(model, args)));
         CHECK.due("asked() behind " + call, program.asked(), model.asked());
-        CHECK.due("upper() behind " + call, program.upper(), model.upper());
-        CHECK.due("lower() behind " + call, program.lower(), model.lower());
-        CHECK.due("finding() behind " + call, program.finding(), model.finding());
-        for (int f = 1; f <= 5; f++) {
-            CHECK.due("findings(" + f + ") behind " + call, program.findings(f), model.findings(f));
+        calls += 2;
+        if (random.nextInt(BETWEEN_LOOKS) == 0) {
+            look("behind " + call);
         }
-        CHECK.due("digest() behind " + call, program.digest(), model.digest());
+    }
+
+    private void look(String call) {
+        calls += CALLS_OF_A_LOOK;
+        CHECK.due("upper() " + call, program.upper(), model.upper());
+        CHECK.due("lower() " + call, program.lower(), model.lower());
+        CHECK.due("finding() " + call, program.finding(), model.finding());
+        for (int f = 1; f <= 5; f++) {
+            CHECK.due("findings(" + f + ") " + call, program.findings(f), model.findings(f));
+        }
+        CHECK.due("digest() " + call, program.digest(), model.digest());
     }
 
     private static long number(Object answer) {

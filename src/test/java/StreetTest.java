@@ -11,6 +11,7 @@ public final class StreetTest {
         streetAnew();
         house();
         mark();
+        markUnlike();
         markChanges();
         altar();
         wall();
@@ -205,21 +206,25 @@ public final class StreetTest {
         CHECK.due("mark(4, 4)", x.mark(4, 4), 1);
         CHECK.due("mark(5, 5)", x.mark(5, 5), 10);
         CHECK.due("asked() behind mark", x.asked(), asked);
-        String[] can = {"", "1", "2", "3", "24", "35", "", "1"};
-        for (int i = 0; i < 8; i++) {
-            for (int kind = 1; kind <= 5; kind++) {
-                if (can[i].indexOf('0' + kind) < 0) {
-                    int house = i;
-                    int other = kind;
-                    CHECK.found("mark(" + i + ", " + kind + ")", x, () -> x.mark(house, other), Check.UNLIKE);
-                }
-            }
-        }
         CHECK.refused("mark(-1, 1)", x, () -> x.mark(-1, 1), NoiseTithe.BAD);
         CHECK.refused("mark(8, 1)", x, () -> x.mark(8, 1), NoiseTithe.BAD);
         CHECK.refused("mark(0, 0)", x, () -> x.mark(0, 0), NoiseTithe.BAD);
         CHECK.refused("mark(1, 6)", x, () -> x.mark(1, 6), NoiseTithe.BAD);
         CHECK.refused("mark(1, -1)", x, () -> x.mark(1, -1), NoiseTithe.BAD);
+    }
+
+    private static void markUnlike() {
+        String[] can = {"", "1", "2", "3", "24", "35", "", "1"};
+        for (int i = 0; i < 8; i++) {
+            int house = i;
+            NoiseTithe x = Check.street(Check.ALL_KINDS);
+            for (int kind = 1; kind <= 5; kind++) {
+                int other = kind;
+                if (can[i].indexOf('0' + kind) < 0) {
+                    CHECK.found("mark(" + i + ", " + kind + ")", x, () -> x.mark(house, other), Check.UNLIKE);
+                }
+            }
+        }
     }
 
     private static void markChanges() {
