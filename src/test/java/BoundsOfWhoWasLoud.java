@@ -201,6 +201,8 @@ final class BoundsOfWhoWasLoud extends Bounds {
             silenceIs(FOUR, 10, 0, 1);
             silenceIs(STILL, 0, 0, 128);
             silenceIs("a00 u90 h90 h01", 0, 2, 1);
+            silenceIs("a00 u90 h60", 5, 0, 0);
+            silenceIs("a00 h90 u90", 9, 0, 1);
             silenceIs("a00 h20 h30 h40", 2, 0, 1);
             silenceIs("a00 h20 h30 h40", 4, 0, 2);
         });
